@@ -1,13 +1,19 @@
+import java.lang.reflect.InvocationTargetException;
+import java.lang.reflect.Method;
+import java.lang.reflect.Modifier;
+import java.util.Arrays;
+import java.util.Comparator;
+
 /** Counts the answers that are not the ones due, prints each, and ends a test's run. */
 final class Checks {
+    private String test = "";
     private int made = 0;
     private int wrong = 0;
 
     void due(String call, long got, long want) {
         made++;
         if (got != want) {
-            wrong++;
-            System.out.println(call + " answered " + got + ", due is " + want);
+            report(call + " answered " + got + ", due is " + want);
         }
     }
 
@@ -18,13 +24,56 @@ final class Checks {
     void due(String what, String got, String want) {
         made++;
         if (!got.equals(want)) {
-            wrong++;
-            System.out.println(what + " is " + got + ", due is " + want);
+            report(what + " is " + got + ", due is " + want);
         }
+    }
+
+    private void report(String fault) {
+        wrong++;
+        System.out.println(test + fault);
     }
 
     boolean isClean() {
         return wrong == 0;
+    }
+
+    /**
+     * Runs every test of a class, that is, every static method whose name begins with "promise" or "terms".
+     * One that throws, or that looks at no answer, has failed; the others run all the same.
+     */
+    void runAll(Class<?> tests) {
+        Method[] methods = tests.getDeclaredMethods();
+        Arrays.sort(methods, Comparator.comparing(Method::getName));
+        int found = 0;
+        for (Method method : methods) {
+            if (method.getName().startsWith("promise") || method.getName().startsWith("terms")) {
+                found++;
+                runOne(method);
+            }
+        }
+        test = "";
+        due("there are tests", found > 0, true);
+    }
+
+    private void runOne(Method method) {
+        test = method.getName() + ": ";
+        int before = made;
+        try {
+            if (!Modifier.isStatic(method.getModifiers())) {
+                report("is not static");
+                return;
+            }
+            method.invoke(null);
+        } catch (InvocationTargetException fault) {
+            report("threw " + fault.getCause());
+            return;
+        } catch (IllegalAccessException fault) {
+            report("is private, so it cannot be run");
+            return;
+        }
+        if (made == before) {
+            report("looked at no answer");
+        }
     }
 
     void end() {

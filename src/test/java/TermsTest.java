@@ -1,6 +1,6 @@
 /**
- * The boundary cases of the document's "Terms", which promises 1 to 13 lean on: a test for each, with the
- * sentence that it holds the class to. The number of a promise stands in the name where it is one's own.
+ * The boundary cases of the document's "Terms", which the promises lean on: a test for each, with the number
+ * of the promise that would be broken and the sentence that it holds the class to.
  */
 public final class TermsTest {
     private static final Checks CHECKS = new Checks();
@@ -20,7 +20,7 @@ public final class TermsTest {
         return x.number(0);
     }
 
-    /** "ENTRIES (row, column, value) add up where they are at one place" (promise 2). */
+    /** Promise 2: "ENTRIES (row, column, value) add up where they are at one place". */
     static void termsEntriesAtOnePlaceAddUp() {
         KrylovDesk x = new KrylovDesk(46337, 2, 4);
         x.entry(1, 0, 30000);
@@ -32,7 +32,7 @@ public final class TermsTest {
         CHECKS.due("number 1", x.number(1), (long) Desks.DRAWS[1] * (49997 - 46337) % 46337);
     }
 
-    /** "ENTRIES .. add up", modulo P: P - 1 and 1 are 0 together. */
+    /** Promise 2: "ENTRIES .. add up", modulo P: P - 1 and 1 are 0 together. */
     static void termsEntriesMayAddUpToNothing() {
         KrylovDesk x = new KrylovDesk(46337, 1, 2);
         x.entry(0, 0, 46336);
@@ -42,7 +42,10 @@ public final class TermsTest {
         CHECKS.due("number 1", x.number(1), 0);
     }
 
-    /** "ENTRIES .. add up", all hundred of them at their greatest, in the greatest P: 100 by (P - 1) is P - 100. */
+    /**
+     * Promise 2: "ENTRIES .. add up", all hundred of them at their greatest, in the greatest P: 100 by (P - 1)
+     * is P - 100.
+     */
     static void termsHundredGreatestEntriesAddUp() {
         KrylovDesk x = new KrylovDesk(46337, 1, 100);
         for (int i = 0; i < 100; i++) {
@@ -55,7 +58,7 @@ public final class TermsTest {
         CHECKS.due("number 1", x.number(1), 100 * 32767 % 46337);
     }
 
-    /** "THE GENERATOR has a number g .. (1 at first)". */
+    /** Promises 1, 13: "THE GENERATOR has a number g .. (1 at first)". */
     static void termsGeneratorIs1AtFirst() {
         KrylovDesk x = new KrylovDesk(46337, 1, 1);
         CHECKS.due("the number", x.count(3), 1);
@@ -64,7 +67,7 @@ public final class TermsTest {
         CHECKS.due("the first draw", x.number(0), Desks.DRAWS[0]);
     }
 
-    /** "a DRAW makes it 1,103,515,245 g + 12,345": from 0. */
+    /** Promises 4, 5: "a DRAW makes it 1,103,515,245 g + 12,345": from 0. */
     static void termsDrawFromNumber0() {
         KrylovDesk x = new KrylovDesk(46337, 1, 1);
         x.seed(0);
@@ -72,7 +75,7 @@ public final class TermsTest {
         CHECKS.due("the number", x.count(3), 12345);
     }
 
-    /** "modulo 2^31": from the greatest number, where it wraps around. */
+    /** Promises 4, 5: "modulo 2^31": from the greatest number, where it wraps around. */
     static void termsDrawFromTheGreatestNumber() {
         KrylovDesk x = new KrylovDesk(46337, 1, 1);
         x.side(0, 1);
@@ -82,7 +85,7 @@ public final class TermsTest {
         CHECKS.due("the draw", x.number(0), 15929);
     }
 
-    /** "g, 0 .. 2^31 - 1": a draw may bring it to both ends, and it is never below 0 or above. */
+    /** Promises 5, 13: "g, 0 .. 2^31 - 1": a draw may bring it to both ends, and it is never below 0 or above. */
     static void termsGeneratorStaysWithin() {
         KrylovDesk x = new KrylovDesk(46337, 1, 1);
         for (int g : new int[] {0, 1, Integer.MAX_VALUE - 1, Integer.MAX_VALUE}) {
@@ -101,7 +104,7 @@ public final class TermsTest {
         }
     }
 
-    /** "gives g / 65,536, cut off": just below and at a whole number, and at both ends. */
+    /** Promise 5: "gives g / 65,536, cut off": just below and at a whole number, and at both ends. */
     static void termsDrawIsCutOff() {
         CHECKS.due("of 0", firstNumber(46337, Desks.before(0), 1), 0);
         CHECKS.due("of 65535", firstNumber(46337, Desks.before(65535), 1), 0);
@@ -111,7 +114,7 @@ public final class TermsTest {
         CHECKS.due("of 2^31 - 1", firstNumber(46337, Desks.before(Integer.MAX_VALUE), 1), 32767);
     }
 
-    /** "gives g / 65,536, cut off, modulo P": just below P, at it and above it. */
+    /** Promise 5: "gives g / 65,536, cut off, modulo P": just below P, at it and above it. */
     static void termsDrawIsModuloP() {
         for (int p : new int[] {2, 3, 101, 32749}) {
             for (int draw : new int[] {p - 1, p, p + 1}) {
@@ -121,7 +124,7 @@ public final class TermsTest {
         }
     }
 
-    /** "u is n draws, in order": draw i meets number i of b, from the first to the last. */
+    /** Promise 5: "u is n draws, in order": draw i meets number i of b, from the first to the last. */
     static void termsDrawsAreInOrder() {
         for (int i = 0; i < Desks.DRAWS.length; i++) {
             KrylovDesk x = new KrylovDesk(46337, Desks.DRAWS.length, 1);
@@ -131,7 +134,7 @@ public final class TermsTest {
         }
     }
 
-    /** "u is n draws", never more or fewer: if b is 0 too, and whatever the attempt tells (promise 5). */
+    /** Promise 5: "u is n draws", never more or fewer: if b is 0 too, and whatever the attempt tells. */
     static void termsEachAttemptDrawsN() {
         KrylovDesk zero = new KrylovDesk(7, 3, 1);
         CHECKS.due("b is 0", zero.attempt(), KrylovDesk.SOLVED);
@@ -145,7 +148,7 @@ public final class TermsTest {
         CHECKS.due("its one draw", wrong.count(3) / 65536, Desks.DRAWS[0]);
     }
 
-    /** "u is n draws": those of the next attempt go on where the last one ended. */
+    /** Promise 5: "u is n draws": those of the next attempt go on where the last one ended. */
     static void termsDrawsGoOnFromAttemptToAttempt() {
         KrylovDesk x = new KrylovDesk(46337, 2, 1);
         x.side(1, 1);
@@ -155,7 +158,10 @@ public final class TermsTest {
         }
     }
 
-    /** "The ROW is u times b, u times A b, .. (2 n numbers; 2 n - 1 products)": CONSTANT makes no other product. */
+    /**
+     * Promises 5, 10, 12: "The ROW is u times b, u times A b, .. (2 n numbers; 2 n - 1 products)": CONSTANT
+     * makes no other product.
+     */
     static void termsRowTakes2nLess1Products() {
         for (int n = 1; n <= 16; n++) {
             KrylovDesk x = new KrylovDesk(46337, n, 1);
@@ -167,7 +173,7 @@ public final class TermsTest {
         }
     }
 
-    /** "u times A b": A times b, not b times A; a row of A makes one number of the product. */
+    /** Promise 5: "u times A b": A times b, not b times A; a row of A makes one number of the product. */
     static void termsProductIsATimesTheVector() {
         KrylovDesk x = new KrylovDesk(46337, 2, 1);
         x.entry(1, 0, 1);
@@ -178,7 +184,10 @@ public final class TermsTest {
         CHECKS.due("number 2", x.number(2), 0);
     }
 
-    /** "ALL NUMBERS are modulo a prime P": the greatest numbers in the greatest P, all places of n 16 together. */
+    /**
+     * Promise 5: "ALL NUMBERS are modulo a prime P": the greatest numbers in the greatest P, all places of n 16
+     * together.
+     */
     static void termsGreatestNumbersStayRight() {
         KrylovDesk x = new KrylovDesk(46337, 16, 16);
         Model model = new Model(46337, 16, 16);
@@ -195,7 +204,9 @@ public final class TermsTest {
         }
     }
 
-    /** "the CANDIDATE is 0 for d 0": b is 0, and so it is the solution; the check is one product. */
+    /**
+     * Promises 5, 7: "the CANDIDATE is 0 for d 0": b is 0, and so it is the solution; the check is one product.
+     */
     static void termsDegree0SolvesIfBIs0() {
         KrylovDesk x = new KrylovDesk(46337, 3, 1);
         x.entry(0, 0, 5);
@@ -207,7 +218,7 @@ public final class TermsTest {
         CHECKS.due("products", x.products(), 5 + 1);
     }
 
-    /** "the CANDIDATE is 0 for d 0", whatever the solution before it was. */
+    /** Promises 5, 7: "the CANDIDATE is 0 for d 0", whatever the solution before it was. */
     static void termsDegree0LeavesNothingOfAnOlderSolution() {
         KrylovDesk x = Desks.pair();
         x.attempt();
@@ -219,7 +230,7 @@ public final class TermsTest {
         CHECKS.due("solution 1", x.solution(1), 0);
     }
 
-    /** "the CANDIDATE is 0 for d 0 .. else WRONG": a u that sees nothing of b, which is not 0. */
+    /** Promise 5: "the CANDIDATE is 0 for d 0 .. else WRONG": a u that sees nothing of b, which is not 0. */
     static void termsDegree0IsWrongIfBIsNot0() {
         KrylovDesk x = Desks.coin();
         x.seed(Desks.seedFor(2, 0));
@@ -229,7 +240,7 @@ public final class TermsTest {
         CHECKS.due("products", x.products(), 1 + 1);
     }
 
-    /** "If d is above 0 and c d is 0: CONSTANT": the least d, 1. */
+    /** Promise 5: "If d is above 0 and c d is 0: CONSTANT": the least d, 1. */
     static void termsConstantOfDegree1() {
         KrylovDesk x = new KrylovDesk(46337, 1, 1);
         x.side(0, 1);
@@ -239,7 +250,7 @@ public final class TermsTest {
         CHECKS.due("coefficient 1", x.coefficient(1), 1);
     }
 
-    /** "If d is above 0 and c d is 0: CONSTANT": the greatest d, 16. */
+    /** Promise 5: "If d is above 0 and c d is 0: CONSTANT": the greatest d, 16. */
     static void termsConstantOfDegree16() {
         KrylovDesk x = Desks.chain(46337, new int[16]);
         CHECKS.due("attempt", x.attempt(), KrylovDesk.CONSTANT);
@@ -251,7 +262,7 @@ public final class TermsTest {
         CHECKS.due("products", x.products(), 31);
     }
 
-    /** "c d is 0": it alone counts, the others may be what they are; and there is no solution then. */
+    /** Promise 5: "c d is 0": it alone counts, the others may be what they are; and there is no solution then. */
     static void termsConstantLooksAtTheLastAlone() {
         KrylovDesk x = new KrylovDesk(46337, 2, 1);
         x.entry(0, 0, 1);
@@ -266,7 +277,10 @@ public final class TermsTest {
         CHECKS.due("products", x.products(), 3);
     }
 
-    /** "c d is 0": others that are 0 do not make it CONSTANT; A turns all places round, and x^16 - 1 solves. */
+    /**
+     * Promise 5: "c d is 0": others that are 0 do not make it CONSTANT; A turns all places round, and x^16 - 1
+     * solves.
+     */
     static void termsOtherZerosAreNotConstant() {
         int[] last = new int[16];
         last[0] = 1;
@@ -280,7 +294,7 @@ public final class TermsTest {
         }
     }
 
-    /** "Otherwise": a matrix without an inverse may still be solved, where b is made by it. */
+    /** Promise 5: "Otherwise": a matrix without an inverse may still be solved, where b is made by it. */
     static void termsSingularMatrixMayBeSolved() {
         KrylovDesk x = new KrylovDesk(46337, 3, 1);
         x.entry(1, 1, 2);
@@ -291,7 +305,10 @@ public final class TermsTest {
         CHECKS.due("solution 2", x.solution(2), 0);
     }
 
-    /** "for i 1 .. d - 1 in order": none for d 1, so the check is the one product beyond the row's. */
+    /**
+     * Promises 5, 12: "for i 1 .. d - 1 in order": none for d 1, so the check is the one product beyond the
+     * row's.
+     */
     static void termsCandidateOfDegree1() {
         KrylovDesk x = new KrylovDesk(46337, 16, 16);
         for (int i = 0; i < 16; i++) {
@@ -307,7 +324,7 @@ public final class TermsTest {
         CHECKS.due("products", x.products(), 31 + 1);
     }
 
-    /** "for i 1 .. d - 1 in order": 15 products for d 16, and one for the check. */
+    /** Promises 5, 12: "for i 1 .. d - 1 in order": 15 products for d 16, and one for the check. */
     static void termsCandidateOfDegree16() {
         int[] last = {7, 1, 2, 3, 4, 5, 6, 7, 8, 9, 10, 11, 12, 13, 14, 15};
         KrylovDesk x = Desks.chain(46337, last);
@@ -325,7 +342,7 @@ public final class TermsTest {
         CHECKS.due("products", x.products(), 31 + 15 + 1);
     }
 
-    /** "w by - c d": in the least P, where - 1 is 1. */
+    /** Promise 5: "w by - c d": in the least P, where - 1 is 1. */
     static void termsCandidateModulo2() {
         KrylovDesk x = Desks.coin();
         x.seed(Desks.seedFor(2, 1));
@@ -335,7 +352,10 @@ public final class TermsTest {
         CHECKS.due("solution", x.solution(0), 1);
     }
 
-    /** "If A times it (a product) is b, it is the SOLUTION; else WRONG, and there is none": none of an older one. */
+    /**
+     * Promises 5, 7: "If A times it (a product) is b, it is the SOLUTION; else WRONG, and there is none": none
+     * of an older one.
+     */
     static void termsWrongLeavesNoSolution() {
         // u sees the second place alone, so the polynomial is x - 2, and its candidate misses the first one.
         KrylovDesk x = new KrylovDesk(3, 2, 2);
@@ -356,7 +376,7 @@ public final class TermsTest {
         CHECKS.due("verify", x.verify(), false);
     }
 
-    /** "If A times it is b": all of b, the last number too. */
+    /** Promise 5: "If A times it is b": all of b, the last number too. */
     static void termsCheckLooksAtEveryNumber() {
         for (int seen = 0; seen < 2; seen++) {
             KrylovDesk x = new KrylovDesk(3, 2, 2);
@@ -369,7 +389,7 @@ public final class TermsTest {
         }
     }
 
-    /** SECTION 2, "If D is 0, m is one more": a row that begins with zeros. */
+    /** Promises 5, 8, 9: SECTION 2, "If D is 0, m is one more": a row that begins with zeros. */
     static void termsRowThatBeginsWithZeros() {
         KrylovDesk x = Desks.chain(2, 1, 0, 0);
         x.seed(Desks.seedFor(2, 0, 0, 1));
@@ -384,7 +404,10 @@ public final class TermsTest {
         CHECKS.due("coefficient 3", x.coefficient(3), 1);
     }
 
-    /** "the least d, and c 1 .. c d": of every row that there is for n 1 .. 4 modulo 2, n 1 .. 3 modulo 3. */
+    /**
+     * Promises 5, 8, 9: "the least d, and c 1 .. c d": of every row that there is for n 1 .. 4 modulo 2, n 1 ..
+     * 3 modulo 3.
+     */
     static void termsRecurrenceIsTheShortest() {
         for (int n = 1; n <= 4; n++) {
             compareEveryRow(2, n);
@@ -448,7 +471,10 @@ public final class TermsTest {
         return digits;
     }
 
-    /** "An object is used for at most 512 calls": the last of them is still answered, after the dearest ones. */
+    /**
+     * Promises 6, 12, 13: "An object is used for at most 512 calls": the last of them is still answered, after
+     * the dearest ones.
+     */
     static void termsCall512IsAnswered() {
         KrylovDesk x = Desks.chain(46337, new int[16]);
         int calls = 15 + 16 + 1;

@@ -94,6 +94,20 @@ public final class PromiseTest {
         CHECKS.due("solution 2", x.solution(2), 3);
     }
 
+    /** The example of README.md, line by line. */
+    static void promise7ExampleOfTheReadme() {
+        KrylovDesk desk = new KrylovDesk(100, 2, 10);
+        desk.entry(0, 0, 1);
+        desk.entry(0, 1, 1);
+        desk.side(0, 3);
+        desk.entry(1, 1, 2);
+        desk.side(1, 4);
+        CHECKS.due("P", desk.count(0), 101);
+        CHECKS.due("solve", desk.solve(50), KrylovDesk.SOLVED);
+        CHECKS.due("x0", desk.solution(0), 1);
+        CHECKS.due("x1", desk.solution(1), 2);
+    }
+
     static void promise8And9() {
         KrylovDesk x = triple();
         x.attempt();
